@@ -83,8 +83,9 @@ public final class ModelTest {
         int sum = 0;
         int inputs = 1 + random.nextInt(2);
         for (int i = 0; i < inputs; i++) {
+            int source = chance(50) ? random.nextInt(40) : 100 + random.nextInt(60);
             PlainModel.Place place = chance(85) && !places.isEmpty() ? places.get(random.nextInt(places.size()))
-                    : new PlainModel.Place(chance(50) ? random.nextInt(40) : 100 + random.nextInt(60), random.nextInt(2));
+                    : new PlainModel.Place(source, random.nextInt(2));
             int secret = chance(96) ? secrets.getOrDefault(place, 3) : random.nextInt(9);
             pair.input(place.source(), place.output(), secret);
             PlainModel.Output there = model.ahead().unspent.get(place);
@@ -147,7 +148,8 @@ public final class ModelTest {
         if (chance(6)) {
             return model.nonceBeforeZero(random.nextInt(43), parents, transactions, secret);
         }
-        int hash = chance(alike) ? random.nextInt(3) : chance(95) ? random.nextInt(536870912) : 536870870 + random.nextInt(60);
+        int apart = chance(95) ? random.nextInt(536870912) : 536870870 + random.nextInt(60);
+        int hash = chance(alike) ? random.nextInt(3) : apart;
         return model.nonceFor(hash, parents, transactions, secret);
     }
 

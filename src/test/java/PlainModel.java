@@ -371,7 +371,8 @@ final class PlainModel {
     }
 
     private Integer readyOrphan() {
-        return orphans.stream().filter(b -> dag.containsAll(blocks.get(b).parents())).min(Integer::compare).orElse(null);
+        return orphans.stream().filter(b -> dag.containsAll(blocks.get(b).parents()))
+                .min(Integer::compare).orElse(null);
     }
 
     private int earlier(int one, int other) {
