@@ -5,25 +5,29 @@ import java.util.List;
 final class Hand {
     static final int GENESIS_SECRET = -382889545;
     static final int GOOD_BELOW = 536870912;
+    private static final int FACTOR = 668265263;
+    /** FACTOR * INVERSE_FACTOR is 1, wrapping. */
+    private static final int INVERSE_FACTOR = -1593951281;
 
-    final BlockMesh mesh;
+    final LimitedMesh mesh;
     private final Check check;
     private final List<Integer> hashes = new ArrayList<>();
     private final List<Integer> ids = new ArrayList<>();
 
     Hand(int k, Check check) {
         this.check = check;
-        mesh = new BlockMesh(k);
+        mesh = new LimitedMesh(k, check);
         hashes.add(mix(mix(13, 0), 0) & 0x7fffffff);
     }
 
     static int mix(int a, int b) {
-        int t = a * 668265263 + b;
+        int t = a * FACTOR + b;
         return t ^ (t >>> 13);
     }
 
-    static int[] on(int... blocks) {
-        return blocks;
+    /** The number that was given to the xor that ends MIX. */
+    private static int unmixed(int mixed) {
+        return mixed ^ mixed >>> 13 ^ mixed >>> 26;
     }
 
     /** Makes a block with a hash below GOOD_BELOW, not received. */
@@ -33,6 +37,16 @@ final class Hand {
         hashes.add(hash);
         check.due("make of block", made, hashes.size() - 1);
         check.due("hash of block " + made, mesh.block(made, 5), hash);
+        return made;
+    }
+
+    /** Makes a block with a hash that is not right: that of the last nonce of the forty. */
+    int makeWrong(int hash, int secret, int[] parents, int... transactions) {
+        put(parents, transactions);
+        int made = mesh.make(secret, nonceFor(hash, secret, parents, transactions) - 39);
+        hashes.add(hash);
+        check.due("make of wrong block", made, hashes.size() - 1);
+        check.due("hash of wrong block " + made, mesh.block(made, 5), hash);
         return made;
     }
 
@@ -70,7 +84,20 @@ final class Hand {
         return ids.get(transaction);
     }
 
+    /** With which nonce a block has a hash; its highest bit is there before it is taken away. */
     int nonceFor(int hash, int secret, int[] parents, int... transactions) {
+        int x = mix(contentMix(parents, transactions), mix(7, secret));
+        return unmixed(hash) - x * FACTOR;
+    }
+
+    /** With which secret a block of a given nonce has a hash. */
+    int secretFor(int hash, int nonce, int[] parents, int... transactions) {
+        int x = (unmixed(hash) - nonce) * INVERSE_FACTOR;
+        int lock = unmixed(x) - contentMix(parents, transactions) * FACTOR;
+        return unmixed(lock) - 7 * FACTOR;
+    }
+
+    private int contentMix(int[] parents, int... transactions) {
         int x = 13;
         for (int p : parents) {
             x = mix(x, hashes.get(p));
@@ -78,9 +105,7 @@ final class Hand {
         for (int t : transactions) {
             x = mix(x, ids.get(t));
         }
-        x = mix(x, mix(7, secret));
-        int t = hash ^ hash >>> 13 ^ hash >>> 26;
-        return t - x * 668265263;
+        return x;
     }
 
     /** Makes a transaction with one input; its outputs are secrets and amounts by turns. */

@@ -1,11 +1,5 @@
 /** Each promise of the document by hand: ordinary calls, the edges that it names, and wrong inputs. */
-public final class PromisesTest {
-    private static final int G = Hand.GENESIS_SECRET;
-    private static final int MIN = Integer.MIN_VALUE;
-    private static final int MAX = Integer.MAX_VALUE;
-
-    private final Check check = new Check();
-
+public final class PromisesTest extends ByHand {
     public static void main(String[] args) {
         PromisesTest test = new PromisesTest();
         test.newObject();
@@ -53,60 +47,10 @@ public final class PromisesTest {
         test.check.end();
     }
 
-    private Hand begin(String promise, int k) {
-        check.part(promise);
-        return new Hand(k, check);
-    }
-
-    private static int[] on(int... blocks) {
-        return blocks;
-    }
-
-    private void dueInt(String call, int got, int want) {
-        check.due(call, got, want);
-    }
-
-    private void dueTrue(String call, boolean got) {
-        check.due(call, got, true);
-    }
-
-    private void dueFalse(String call, boolean got) {
-        check.due(call, got, false);
-    }
-
-    private void dueOrder(BlockMesh x, int... blocks) {
-        for (int i = 0; i < blocks.length; i++) {
-            dueInt("order(" + i + ")", x.order(i), blocks[i]);
-            dueInt("block(" + blocks[i] + ", 3)", x.block(blocks[i], 3), i);
-        }
-        dueInt("order behind the last", x.order(blocks.length), -1);
-    }
-
-    private void duePool(BlockMesh x, int... transactions) {
-        for (int i = 0; i < transactions.length; i++) {
-            dueInt("pool(" + i + ")", x.pool(i), transactions[i]);
-        }
-        dueInt("pool behind the last", x.pool(transactions.length), -1);
-        dueInt("count(5)", x.count(5), transactions.length);
-    }
-
-    private void dueWanted(BlockMesh x, int... blocks) {
-        for (int i = 0; i < blocks.length; i++) {
-            dueInt("wanted(" + i + ")", x.wanted(i), blocks[i]);
-        }
-        dueInt("wanted behind the last", x.wanted(blocks.length), -1);
-    }
-
-    private void dueCounts(BlockMesh x, int... counts) {
-        for (int what = 0; what < counts.length; what++) {
-            dueInt("count(" + what + ")", x.count(what), counts[what]);
-        }
-    }
-
     // Promise 1
 
     private void newObject() {
-        BlockMesh x = begin("promise 1", 3).mesh;
+        LimitedMesh x = begin("promise 1", 3).mesh;
         dueCounts(x, 0, 1, 1, 1, 0, 0, 0, 1, 0, 0);
         dueOrder(x, 0);
         duePool(x);
@@ -138,7 +82,7 @@ public final class PromisesTest {
 
     private void inputRefusals() {
         Hand h = begin("promise 2", 0);
-        BlockMesh x = h.mesh;
+        LimitedMesh x = h.mesh;
         for (int source : new int[] {MIN, -100, -1, 0, 39, 40, 60, 99, 101, 160, MAX}) {
             dueFalse("input(" + source + ", 0, 1)", x.input(source, 0, 1));
         }
@@ -162,7 +106,7 @@ public final class PromisesTest {
 
     private void inputsCount() {
         Hand h = begin("promise 2", 0);
-        BlockMesh x = h.mesh;
+        LimitedMesh x = h.mesh;
         h.pay(100, 0, G, 5, 30, 6, 34);
         dueTrue("first input", x.input(0, 1, 6));
         dueTrue("second input", x.input(0, 0, 5));
@@ -183,7 +127,7 @@ public final class PromisesTest {
 
     private void outputs() {
         Hand h = begin("promise 3", 0);
-        BlockMesh x = h.mesh;
+        LimitedMesh x = h.mesh;
         for (int amount : new int[] {MIN, -1, 1001, MAX}) {
             dueFalse("output(1, " + amount + ")", x.output(1, amount));
         }
@@ -206,7 +150,7 @@ public final class PromisesTest {
 
     private void transactionRefusals() {
         Hand h = begin("promise 4", 0);
-        BlockMesh x = h.mesh;
+        LimitedMesh x = h.mesh;
         dueInt("transaction() of nothing", x.transaction(), -1);
         dueTrue("output", x.output(5, 10));
         dueInt("transaction() without an input", x.transaction(), -1);
@@ -226,7 +170,7 @@ public final class PromisesTest {
 
     private void fortyTransactions() {
         Hand h = begin("promise 4", 0);
-        BlockMesh x = h.mesh;
+        LimitedMesh x = h.mesh;
         for (int i = 0; i < 40; i++) {
             h.pay(100, 0, G, i, i);
         }
@@ -253,7 +197,7 @@ public final class PromisesTest {
 
     private void parents() {
         Hand h = begin("promise 5", 2);
-        BlockMesh x = h.mesh;
+        LimitedMesh x = h.mesh;
         for (int block : new int[] {MIN, -1, 1, 59, 60, 64, 100, MAX}) {
             dueFalse("parent(" + block + ")", x.parent(block));
         }
@@ -282,7 +226,7 @@ public final class PromisesTest {
 
     private void includes() {
         Hand h = begin("promise 6", 2);
-        BlockMesh x = h.mesh;
+        LimitedMesh x = h.mesh;
         for (int transaction : new int[] {MIN, -1, 0, 39, 40, 100, MAX}) {
             dueFalse("include(" + transaction + ")", x.include(transaction));
         }
@@ -310,7 +254,7 @@ public final class PromisesTest {
 
     private void makeRefusals() {
         Hand h = begin("promise 7", 0);
-        BlockMesh x = h.mesh;
+        LimitedMesh x = h.mesh;
         dueInt("make without a parent", x.make(1, 1), -1);
         h.pay(100, 0, G, 1, 64);
         dueTrue("include(0)", x.include(0));
@@ -330,7 +274,7 @@ public final class PromisesTest {
 
     private void makeTriesFortyNonces() {
         Hand h = begin("promise 7", 0);
-        BlockMesh x = h.mesh;
+        LimitedMesh x = h.mesh;
         // Below the nonce that gives the hash 0, the numbers before the last xor count down from all ones.
         int zero = h.nonceFor(0, 3, on(0));
         int number = 1;
@@ -356,7 +300,7 @@ public final class PromisesTest {
 
     private void workIsRightBelowTheBound() {
         Hand h = begin("promise 7 and 10", 0);
-        BlockMesh x = h.mesh;
+        LimitedMesh x = h.mesh;
         int best = Hand.GOOD_BELOW - 1;
         h.add(best, 3, on(0));
         h.put(on(0));
@@ -375,7 +319,7 @@ public final class PromisesTest {
 
     private void sixtyBlocks() {
         Hand h = begin("promise 7 and 9", 0);
-        BlockMesh x = h.mesh;
+        LimitedMesh x = h.mesh;
         for (int i = 1; i < 60; i++) {
             h.make(i, i, on(0));
         }
@@ -398,7 +342,7 @@ public final class PromisesTest {
 
     private void clears() {
         Hand h = begin("promise 8", 0);
-        BlockMesh x = h.mesh;
+        LimitedMesh x = h.mesh;
         h.pay(100, 0, G, 5, 64);
         dueInt("submit(0)", x.submit(0), 0);
         h.make(7, 7, on(0));
@@ -431,7 +375,7 @@ public final class PromisesTest {
 
     private void templateOnTips() {
         Hand h = begin("promise 9", 1);
-        BlockMesh x = h.mesh;
+        LimitedMesh x = h.mesh;
         h.pay(100, 0, G, 5, 60);
         h.put(on(0), 0);
         dueTrue("input", x.input(100, 0, 8));
@@ -466,7 +410,7 @@ public final class PromisesTest {
 
     private void templateTakesFourTips() {
         Hand h = begin("promise 9", 1);
-        BlockMesh x = h.mesh;
+        LimitedMesh x = h.mesh;
         h.add(40, 1, on(0));
         h.add(10, 2, on(0));
         h.add(30, 3, on(0));
@@ -502,7 +446,7 @@ public final class PromisesTest {
 
     private void templateTakesThreeOfThePool() {
         Hand h = begin("promise 9", 1);
-        BlockMesh x = h.mesh;
+        LimitedMesh x = h.mesh;
         int last = h.pay(100, 0, G, 1, 60);
         int first = last;
         for (int i = 1; i <= 4; i++) {
@@ -530,7 +474,7 @@ public final class PromisesTest {
 
     private void receiveRefusals() {
         Hand h = begin("promise 10", 0);
-        BlockMesh x = h.mesh;
+        LimitedMesh x = h.mesh;
         for (int block : new int[] {MIN, -1, 1, 59, 60, 100, MAX}) {
             dueInt("receive(" + block + ")", x.receive(block), -1);
         }
@@ -555,7 +499,7 @@ public final class PromisesTest {
 
     private void orphansWaitAndFollow() {
         Hand h = begin("promise 10", 4);
-        BlockMesh x = h.mesh;
+        LimitedMesh x = h.mesh;
         h.make(11, 1, on(0));
         h.make(12, 2, on(1));
         h.make(13, 3, on(2));
@@ -578,7 +522,7 @@ public final class PromisesTest {
 
     private void fifthOrphanDropsTheFirst() {
         Hand h = begin("promise 10", 4);
-        BlockMesh x = h.mesh;
+        LimitedMesh x = h.mesh;
         h.make(11, 1, on(0));
         for (int i = 2; i <= 7; i++) {
             h.make(10 + i, i, on(1));
@@ -605,7 +549,7 @@ public final class PromisesTest {
 
     private void orphanWithOverlapIsDropped() {
         Hand h = begin("promise 10", 4);
-        BlockMesh x = h.mesh;
+        LimitedMesh x = h.mesh;
         h.make(11, 1, on(0));
         h.make(12, 2, on(1));
         h.make(13, 3, on(1, 2));
@@ -629,7 +573,7 @@ public final class PromisesTest {
 
     private void submitRefusals() {
         Hand h = begin("promise 11", 0);
-        BlockMesh x = h.mesh;
+        LimitedMesh x = h.mesh;
         for (int transaction : new int[] {MIN, -1, 0, 39, 40, 64, 100, MAX}) {
             dueInt("submit(" + transaction + ")", x.submit(transaction), -1);
         }
@@ -649,7 +593,7 @@ public final class PromisesTest {
 
     private void submitRefusesWhatWouldNotBeAccepted() {
         Hand h = begin("promise 11", 0);
-        BlockMesh x = h.mesh;
+        LimitedMesh x = h.mesh;
         int[] genesis = {100, 0, G};
         int unknown = h.make(3, 3, on(0));
         int[][] two = {{100, 0, G}, {100, 0, G}};
@@ -679,7 +623,7 @@ public final class PromisesTest {
 
     private void eightInThePool() {
         Hand h = begin("promise 11", 0);
-        BlockMesh x = h.mesh;
+        LimitedMesh x = h.mesh;
         int last = h.pay(100, 0, G, 0, 64);
         for (int i = 1; i <= 8; i++) {
             last = h.pay(last, 0, i - 1, i, 64);
@@ -706,7 +650,7 @@ public final class PromisesTest {
 
     private void blockAnswers() {
         Hand h = begin("promise 12", 0);
-        BlockMesh x = h.mesh;
+        LimitedMesh x = h.mesh;
         int main = h.add(11, 1, on(0));
         int red = h.add(12, 2, on(0));
         int merging = h.add(13, 3, on(main, red));
@@ -740,7 +684,7 @@ public final class PromisesTest {
 
     private void selectedIsTheHeaviestThenEarliest() {
         Hand h = begin("promise 12, SELECTED", 0);
-        BlockMesh x = h.mesh;
+        LimitedMesh x = h.mesh;
         h.add(30, 1, on(0));
         dueInt("count(8)", x.count(8), 1);
         h.add(20, 2, on(0));
@@ -765,7 +709,7 @@ public final class PromisesTest {
 
     private void mergedByScoreThenHash() {
         Hand h = begin("promise 12 and 13, MERGED", 4);
-        BlockMesh x = h.mesh;
+        LimitedMesh x = h.mesh;
         int a = h.add(50, 1, on(0));
         int b = h.add(60, 2, on(0));
         int b2 = h.add(10, 3, on(b));
@@ -787,7 +731,7 @@ public final class PromisesTest {
     private void bluesKeepToK() {
         for (int k = 0; k <= 4; k++) {
             Hand h = begin("promise 12, BLUES with K = " + k, k);
-            BlockMesh x = h.mesh;
+            LimitedMesh x = h.mesh;
             int y = h.add(10, 1, on(0));
             int s = h.add(11, 2, on(y));
             int c1 = h.add(20, 3, on(0));
@@ -810,7 +754,7 @@ public final class PromisesTest {
 
     private void blueOfTheVirtualBlockOnly() {
         Hand h = begin("promise 12, other BLUES", 0);
-        BlockMesh x = h.mesh;
+        LimitedMesh x = h.mesh;
         int a = h.add(10, 1, on(0));
         int b = h.add(20, 2, on(0));
         dueInt("a", x.block(a, 0), 2);
@@ -833,7 +777,7 @@ public final class PromisesTest {
 
     private void orders() {
         Hand h = begin("promise 13", 0);
-        BlockMesh x = h.mesh;
+        LimitedMesh x = h.mesh;
         int a = h.add(10, 1, on(0));
         int b = h.add(5, 2, on(0));
         dueOrder(x, 0, b, a);
@@ -853,7 +797,7 @@ public final class PromisesTest {
 
     private void unspentFollowsTheOrder() {
         Hand h = begin("promise 14", 0);
-        BlockMesh x = h.mesh;
+        LimitedMesh x = h.mesh;
         int toOne = h.pay(100, 0, G, 1, 60, 2, 4);
         int toOther = h.pay(100, 0, G, 3, 50);
         int behind = h.pay(toOne, 0, 1, 4, 59);
@@ -888,7 +832,7 @@ public final class PromisesTest {
 
     private void unspentRewardsHalve() {
         Hand h = begin("promise 14, rewards", 0);
-        BlockMesh x = h.mesh;
+        LimitedMesh x = h.mesh;
         int total = 64;
         for (int b = 1; b < 60; b++) {
             h.add(b, b, on(b - 1));
@@ -917,7 +861,7 @@ public final class PromisesTest {
 
     private void feesGoToBlueBlocks() {
         Hand h = begin("promise 14, fees", 1);
-        BlockMesh x = h.mesh;
+        LimitedMesh x = h.mesh;
         int t = h.pay(100, 0, G, 1, 30, 2, 24);
         int one = h.pay(t, 0, 1, 3, 20);
         int other = h.pay(t, 1, 2, 4, 24);
@@ -944,7 +888,7 @@ public final class PromisesTest {
 
     private void outputsOfNothing() {
         Hand h = begin("promise 14, nothing", 0);
-        BlockMesh x = h.mesh;
+        LimitedMesh x = h.mesh;
         int t = h.pay(100, 0, G, 1, 0, 2, 0);
         int behind = h.pay(t, 0, 1, 3, 0);
         int joined = h.join(on(t, 1, 2), on(behind, 0, 3), 4, 0);
@@ -961,7 +905,7 @@ public final class PromisesTest {
 
     private void acceptedOnce() {
         Hand h = begin("promise 14, ACCEPTED", 4);
-        BlockMesh x = h.mesh;
+        LimitedMesh x = h.mesh;
         int t = h.pay(100, 0, G, 1, 60);
         int back = h.pay(t, 0, 1, 2, 60);
         int a = h.add(10, 8, on(0), t);
@@ -982,7 +926,7 @@ public final class PromisesTest {
 
     private void poolDropsWhatIsOver() {
         Hand h = begin("promise 15", 0);
-        BlockMesh x = h.mesh;
+        LimitedMesh x = h.mesh;
         int first = h.pay(100, 0, G, 1, 30, 2, 34);
         int left = h.pay(first, 0, 1, 3, 30);
         int right = h.pay(first, 1, 2, 4, 34);
@@ -1003,7 +947,7 @@ public final class PromisesTest {
 
     private void poolKeepsWhatStillHolds() {
         Hand h = begin("promise 15", 0);
-        BlockMesh x = h.mesh;
+        LimitedMesh x = h.mesh;
         int a = h.add(20, 6, on(0));
         int first = h.pay(100, 0, G, 1, 30, 2, 34);
         int left = h.pay(first, 0, 1, 3, 30);
@@ -1029,7 +973,7 @@ public final class PromisesTest {
 
     private void poolIsLookedAtOnceAtTheEnd() {
         Hand h = begin("promise 15", 0);
-        BlockMesh x = h.mesh;
+        LimitedMesh x = h.mesh;
         int a = h.add(20, 6, on(0));
         int reward = h.pay(100 + a, 0, 6, 4, 64);
         dueInt("submit", x.submit(reward), 0);
@@ -1045,7 +989,7 @@ public final class PromisesTest {
         duePool(x, reward);
         // Between b2 and over3, a is red for a while, within one call.
         Hand g = begin("promise 15", 0);
-        BlockMesh y = g.mesh;
+        LimitedMesh y = g.mesh;
         int c = g.add(20, 6, on(0));
         int spend = g.pay(100 + c, 0, 6, 4, 64);
         dueInt("submit", y.submit(spend), 0);
@@ -1067,7 +1011,7 @@ public final class PromisesTest {
 
     private void wantedBlocks() {
         Hand h = begin("promise 16", 4);
-        BlockMesh x = h.mesh;
+        LimitedMesh x = h.mesh;
         for (int i = 1; i <= 6; i++) {
             h.make(i, i, on(0));
         }
@@ -1107,7 +1051,7 @@ public final class PromisesTest {
 
     private void parentsOf() {
         Hand h = begin("promise 17", 0);
-        BlockMesh x = h.mesh;
+        LimitedMesh x = h.mesh;
         h.add(1, 1, on(0));
         h.add(2, 2, on(0));
         int known = h.add(3, 3, on(2, 1));
@@ -1132,7 +1076,7 @@ public final class PromisesTest {
 
     private void counts() {
         Hand h = begin("promise 18", 0);
-        BlockMesh x = h.mesh;
+        LimitedMesh x = h.mesh;
         int first = h.pay(100, 0, G, 1, 30, 2, 34);
         int second = h.pay(first, 0, 1, 3, 30);
         int third = h.pay(first, 1, 2, 3, 30);
@@ -1157,7 +1101,7 @@ public final class PromisesTest {
 
     private void totals() {
         Hand h = begin("promise 19", 0);
-        BlockMesh x = h.mesh;
+        LimitedMesh x = h.mesh;
         int t = h.pay(100, 0, G, 1, 20, 2, 30);
         dueInt("submit", x.submit(t), 0);
         dueInt("the pool does not count", x.total(), 64);
