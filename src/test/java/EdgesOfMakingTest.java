@@ -580,8 +580,10 @@ public final class EdgesOfMakingTest extends ByHand {
             h.make(b, b, on(0));
         }
         dueInt("the sixtieth", x.template(1, h.nonceFor(59, 1, on(0))), 59);
+        h.put(on(0, 1, 2, 3));
         dueInt("the 61st", x.template(1, 1), -1);
         dueInt("the 61st again", x.template(2, 2), -1);
+        dueFalse("what is being made stays", x.parent(4));
         dueInt("count(1)", x.count(1), 60);
         dueInt("the sixtieth can be received", x.receive(59), 0);
         dueInt("the 61st after that", x.template(3, 3), -1);
@@ -614,7 +616,7 @@ public final class EdgesOfMakingTest extends ByHand {
 
     private void templateOfFiveTips() {
         for (int least = 1; least <= 5; least++) {
-            Hand h = begin("promise 9: 'of more than four those with the greatest SCORE', the " + least + ". is away", 4);
+            Hand h = begin("promise 9: 'of more than four those with the greatest SCORE', not tip " + least, 4);
             LimitedMesh x = h.mesh;
             int[] feet = new int[6];
             for (int i = 1; i <= 5; i++) {

@@ -120,6 +120,7 @@ public final class EdgesOfNodeTest extends ByHand {
         }
         dueInt("count(4)", x.count(4), 4);
         // To come again does not make the waiting shorter.
+        dueInt("the first again", x.receive(orphans[0]), -3);
         dueInt("a fifth", x.receive(orphans[4]), 1);
         dueInt("the first was dropped", x.block(orphans[0], 0), 0);
         dueInt("it is none any more", x.receive(orphans[0]), 1);
@@ -745,6 +746,8 @@ public final class EdgesOfNodeTest extends ByHand {
         int next = h.add(3, 3, on(a, red), h.pay(100 + a, 0, 1, 5, 0));
         dueInt("the fee comes to the next", x.unspent(100 + next, 0), 128);
         dueInt("total()", x.total(), 128);
+        dueInt("submit", x.submit(h.pay(100 + next, 0, 3, 5, 27)), 0);
+        dueInt("what the pool spends is there still", x.total(), 128);
     }
 
     private void totalAtItsGreatest() {

@@ -45,6 +45,7 @@ public final class EdgesOfTermsTest extends ByHand {
         test.amountIsByTheBlocksOwnScore();
         test.amountIsNothingFrom56On();
         test.noOutputOfRedBlocks();
+        test.feesOfAllThatIsAcceptedInABlock();
         test.feesOfRedBlocksAreLost();
         test.poolHasAtMostEight();
         test.poolBehindThoseBefore();
@@ -702,6 +703,22 @@ public final class EdgesOfTermsTest extends ByHand {
         h.add(3, 3, on(red));
         dueInt("red now", x.unspent(100 + a, 0), -1);
         dueInt("blue now", x.unspent(100 + red, 0), 64);
+    }
+
+    private void feesOfAllThatIsAcceptedInABlock() {
+        Hand h = begin("'the fees of the transactions that were accepted in X'", 4);
+        LimitedMesh x = h.mesh;
+        int t = h.pay(100, 0, G, 1, 30, 2, 30);
+        int one = h.pay(t, 0, 1, 3, 28);
+        int other = h.pay(t, 1, 2, 3, 30);
+        int notAccepted = h.pay(t, 0, 1, 4, 0);
+        int later = h.pay(other, 0, 3, 4, 23);
+        int a = h.add(1, 1, on(0), t, one, other);
+        int b = h.add(2, 2, on(0), one, notAccepted);
+        int c = h.add(3, 3, on(a, b), one, later, notAccepted);
+        dueInt("of three: 4, 2 and 0", x.unspent(100 + a, 0), 70);
+        dueInt("of none, for they are accepted before or not at all", x.unspent(100 + b, 0), 64);
+        dueInt("of one of three", x.unspent(100 + c, 0), 71);
     }
 
     private void feesOfRedBlocksAreLost() {
