@@ -34,6 +34,7 @@ public final class EdgesOfTermsTest extends ByHand {
         test.bluesWithKOfAnother();
         test.bluesOfBrothers();
         test.acceptedIfNotBefore();
+        test.acceptedIfNotBeforeWithNothing();
         test.acceptedIfThere();
         test.acceptedIfUnspent();
         test.acceptedIfDifferent();
@@ -523,6 +524,22 @@ public final class EdgesOfTermsTest extends ByHand {
         dueInt("total()", x.total(), 60 + 68 + 64 + 64);
     }
 
+    private void acceptedIfNotBeforeWithNothing() {
+        Hand h = begin("'ACCEPTED, if it was not before', amounts of 0", 0);
+        LimitedMesh x = h.mesh;
+        int t = h.pay(100, 0, G, 1, 0);
+        int behind = h.pay(t, 0, 1, 2, 0);
+        int a = h.add(1, 1, on(0), t, behind);
+        h.add(2, 2, on(a), t);
+        dueInt("what is spent does not come back", x.unspent(t, 0), -1);
+        dueInt("unspent(behind, 0)", x.unspent(behind, 0), 0);
+        dueInt("count(6)", x.count(6), 2);
+        int last = h.pay(behind, 0, 2, 3, 0, 4, 0);
+        dueInt("submit", x.submit(last), 0);
+        h.add(3, 3, on(2), last);
+        duePool(x);
+    }
+
     private void acceptedIfThere() {
         Hand h = begin("'the outputs that its inputs tell are there'", 0);
         LimitedMesh x = h.mesh;
@@ -536,6 +553,13 @@ public final class EdgesOfTermsTest extends ByHand {
         h.add(2, 2, on(a), second);
         dueInt("behind its source", x.unspent(second, 0), 64);
         dueInt("count(6)", x.count(6), 2);
+        int red = h.add(3, 3, on(0));
+        int firstLacks = h.join(on(100 + red, 0, 3), on(second, 0, 2), 3, 1);
+        int lastLacks = h.join(on(second, 0, 2), on(100 + red, 0, 3), 3, 1);
+        dueInt("the first of two lacks", x.submit(firstLacks), -3);
+        dueInt("the last of two lacks", x.submit(lastLacks), -3);
+        h.add(4, 4, on(2), firstLacks, lastLacks);
+        dueInt("count(6)", x.count(6), 2);
     }
 
     private void acceptedIfUnspent() {
@@ -548,6 +572,12 @@ public final class EdgesOfTermsTest extends ByHand {
         dueInt("the second finds it spent", x.unspent(other, 0), -1);
         h.add(2, 2, on(a), other);
         dueInt("in a later block too", x.unspent(other, 0), -1);
+        int firstSpent = h.join(on(100, 0, G), on(one, 0, 1), 3, 1);
+        int lastSpent = h.join(on(one, 0, 1), on(100, 0, G), 3, 1);
+        h.add(3, 3, on(2), firstSpent, lastSpent);
+        dueInt("the first of two is spent", x.unspent(firstSpent, 0), -1);
+        dueInt("the last of two is spent", x.unspent(lastSpent, 0), -1);
+        dueInt("the other one is not spent by that", x.unspent(one, 0), 64);
         dueInt("count(6)", x.count(6), 1);
     }
 
