@@ -784,6 +784,7 @@ public final class BlockMesh {
         int feeOf(int transaction) {
             int available = hasAccepted(transaction) ? NONE : inputSum(transaction);
             int needed = transactions.outputSum(transaction);
+            // NONE lies below every sum, so it never suffices.
             return available < needed ? NONE : available - needed;
         }
 
